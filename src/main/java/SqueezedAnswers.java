@@ -481,7 +481,6 @@ public final class SqueezedAnswers {
             Arrays.fill(cells, UNKNOWN);
             Arrays.fill(wants, UNKNOWN);
             Arrays.fill(columns, 0);
-            suspectAll();
         }
 
         void suspectAll() {
@@ -1134,17 +1133,22 @@ public final class SqueezedAnswers {
         }
 
         private void tell(int line, int i, int v) {
+            if (line == OUT || (i == 0 && (line == COLUMN || line == CELL))) {
+                tellChain(v);
+            }
             switch (line) {
                 case CHIP: tellChip(i, v); break;
                 case COLUMN: tellColumn(i, v); break;
-                case OUT:
-                    tellChain(v);
-                    draft.outChains |= 1 << v;
-                    break;
+                case OUT: draft.outChains |= 1 << v; break;
                 case REGISTER: tellRegister(i, v); break;
                 case POLY: draft.poly = v; break;
                 default: tellCell(i, v); break;
             }
+        }
+
+        private void tellChain(int c) {
+            chainsTold = Math.max(chainsTold, c + 1);
+            lineChain = c;
         }
 
         private void tellChip(int i, int v) {
@@ -1156,9 +1160,7 @@ public final class SqueezedAnswers {
         }
 
         private void tellColumn(int i, int v) {
-            if (i == 0) {
-                tellChain(v);
-            } else {
+            if (i > 0) {
                 outputsTold = Math.max(outputsTold, v + 1);
                 draft.columns[lineChain] |= 1 << v;
             }
@@ -1173,19 +1175,12 @@ public final class SqueezedAnswers {
         }
 
         private void tellCell(int i, int v) {
-            switch (i) {
-                case 0: tellChain(v); break;
-                case 1:
-                    cellsTold = Math.max(cellsTold, v + 1);
-                    lineCell = v;
-                    break;
-                default: draft.cells[Chip.at(lineChain, lineCell)] = v; break;
+            if (i == 1) {
+                cellsTold = Math.max(cellsTold, v + 1);
+                lineCell = v;
+            } else if (i == 2) {
+                draft.cells[Chip.at(lineChain, lineCell)] = v;
             }
-        }
-
-        private void tellChain(int c) {
-            chainsTold = Math.max(chainsTold, c + 1);
-            lineChain = c;
         }
 
         // Without a chip there are 0 of each, so that any that is told is one too many; poly counts only if told.

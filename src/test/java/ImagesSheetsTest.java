@@ -92,6 +92,13 @@ public final class ImagesSheetsTest {
         x.put(0, 0);
         check.due("image by its own columns", x.differs(1, 0), 2);
         check.due("cells of chains by number", x.differs(1, 1), 2);
+        SqueezedAnswers wide = Check.of("chip 1 5 2;column 0 0 1;");
+        Check.cells(wide, 0, "00000");
+        wide.keep(0);
+        Check.cells(wide, 0, "11111");
+        check.due("all cycles, all outputs", wide.differs(0, 0), 10);
+        check.due("all cells", wide.differs(0, 1), 5);
+        check.due("one chain", wide.back(0), 1);
     }
 
     private static void sheet(Check check) {

@@ -71,6 +71,8 @@ public final class SeedsTest {
         x.want(1, 2, 1);
         check.due("none, least", x.seed(0), SqueezedAnswers.NONE);
         check.due("none, how many", x.seed(1), SqueezedAnswers.NONE);
+        x.want(1, 2, 2);
+        check.due("there is one again", x.seed(0), 7);
     }
 
     private static void againstAllSeeds(Check check) {

@@ -33,13 +33,21 @@ public final class SeenTest {
         check.due("no cycle below", x.seen(-1, 0), BAD);
         check.due("no output", x.seen(0, 2), BAD);
         check.due("no output below", x.seen(0, -1), BAD);
+        SqueezedAnswers wide = Check.of("chip 1 3 2;column 0 1;cell 0 2 1;");
+        check.due("the last cycle", wide.seen(2, 1), 1);
+        check.due("behind the last cycle", wide.seen(3, 1), BAD);
+        check.due("behind the last output", wide.seen(1, 2), BAD);
     }
 
     private static void weak(Check check) {
-        SqueezedAnswers x = Check.of("chip 6 1 3;column 1 0;column 2 0 1;column 3 0;column 5 0;out 0 1;");
-        check.due("of no output", x.weak(0), 2);
-        check.due("even", x.weak(1), 3);
-        check.due("the same", x.weak(2), 3);
+        SqueezedAnswers x = Check.of("chip 7 1 3;column 1 0;column 2 0 1;column 3 0;column 5 0;out 0 1;");
+        check.due("of no output", x.weak(0), 3);
+        check.due("even", x.weak(1), 4);
+        check.due("the same", x.weak(2), 4);
+        x.put(6, 5);
+        check.due("another of no output", x.weak(0), 2);
+        check.due("another even", x.weak(1), 4);
+        check.due("another that is the same", x.weak(2), 3);
         check.due("below", x.weak(-1), BAD);
         check.due("above", x.weak(3), BAD);
     }
@@ -68,6 +76,12 @@ public final class SeenTest {
         check.due("u above", x.hidden(1, 9, 0), BAD);
         check.due("what below", x.hidden(1, 0, -1), BAD);
         check.due("what above", x.hidden(1, 0, 2), BAD);
+        SqueezedAnswers both = Check.of("chip 3 1 2;column 0 0;column 1 0;column 2 0 1;");
+        check.due("two that cover the same output", both.hidden(1, 2, 1), 2);
+        check.due("two that cover, by their bits", both.hides(3), SqueezedAnswers.NONE);
+        both.put(2, 1);
+        check.due("all cover the same output", both.hidden(1, 2, 1), 3);
+        check.due("the third beside both", both.hides(3), 4);
         SqueezedAnswers all = Check.of("chip 8 1 1;");
         check.due("3 and 3 of 8", all.hidden(3, 3, 0), 560);
         check.due("8 of 8", all.hidden(8, 0, 1), 1);
@@ -88,6 +102,13 @@ public final class SeenTest {
         check.due("alike beside one", x.sure(1), 0);
         check.due("below", x.sure(-1), BAD);
         check.due("above", x.sure(9), BAD);
+        SqueezedAnswers seven = Check.of("chip 8 1 8;column 7 0 1 2 3 4 5 6;");
+        for (int c = 0; c < 7; c++) {
+            seven.put(c, 1 << c);
+        }
+        check.due("only all eight add up", seven.sure(0), 7);
+        seven.put(7, 255);
+        check.due("none of eight adds up", seven.sure(0), 8);
     }
 
     private static void hides(Check check) {

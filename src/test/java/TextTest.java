@@ -43,6 +43,41 @@ public final class TextTest {
         Check.feed(x, "poly 0;poly");
         check.due("cut", x.end(7), 11);
         check.due("the first bytes are kept", x.text(), 1);
+        Check.feed(x, "poly 0;out");
+        x.end(6);
+        check.due("what is cut does not end a line", x.text(), -16);
+        Check.feed(x, "poly 0000;");
+        x.end(6);
+        x.feed(';');
+        check.due("nor does it go on", x.text(), 1);
+        Check.feed(x, "polyx");
+        x.end(4);
+        check.due("nor is it a name's end", x.text(), -14);
+        Check.feed(x, "poly 00000");
+        x.end(9);
+        check.due("nor a number's", x.text(), -19);
+        full(check, 'x', 0);
+        full(check, '0', 1);
+        full(check, ';', 2);
+        full(check, ' ', 3);
+    }
+
+    /** A tape that is full to its last byte, with a token of each kind there. */
+    private static void full(Check check, int last, int kind) {
+        int[] places = {159, 159, 159, 160};
+        SqueezedAnswers x = new SqueezedAnswers();
+        for (int i = 0; i < 159; i++) {
+            x.feed(' ');
+        }
+        x.feed(last);
+        check.due("full with " + last, x.text(), kind == 3 ? 0 : -10 - places[kind]);
+        check.due("fault of full with " + last, x.fault(), kind == 3 ? 0 : 2);
+        Check.feed(x, "out");
+        for (int i = 3; i < 160; i++) {
+            x.feed(i % 2 == 0 ? '0' : ' ');
+        }
+        check.due("a line without an end", x.text(), -170);
+        check.due("its fault", x.fault(), 2);
     }
 
     private static void taken(Check check) {
@@ -60,6 +95,10 @@ public final class TextTest {
         check.due("another cell", x.cell(0, 0, 0), 0);
         check.due("a cell not told", x.cell(1, 1, 0), 2);
         check.due("bits of columns", x.count(5), 3);
+        SqueezedAnswers other = Check.of("chip 2 5 7;");
+        check.due("chains", other.rule(0), 2);
+        check.due("length", other.rule(1), 5);
+        check.due("outputs", other.rule(2), 7);
         check.due("eleven lines", Check.tell(x, "chip 1 1 1;out 0;out 0;out 0;out 0;out 0;out 0;out 0;out 0;out 0;out 0;"), 11);
         check.due("largest", Check.tell(x, "chip 8 8 8;column 7 7;out 7;register 12 4095;poly 255;cell 7 7 2;"), 6);
         check.due("all unknown", x.rule(7), 64);
@@ -98,6 +137,11 @@ public final class TextTest {
     }
 
     private static void misplaced(Check check) {
+        fault(check, "a", 2, 0);
+        fault(check, "z", 2, 0);
+        fault(check, "az 1", 2, 0);
+        fault(check, "dhip 1 1 1;", 2, 0);
+        fault(check, "chiq 1 1 1;", 2, 0);
         fault(check, "chi 1 1 1;", 2, 0);
         fault(check, "chips 1 1 1;", 2, 0);
         fault(check, "chipout 1;", 2, 0);
