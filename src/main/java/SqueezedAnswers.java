@@ -17,8 +17,6 @@ public final class SqueezedAnswers {
     private static final int REFUSED_BASE = -20;
     private static final int NULL_FAULT = 1, INDEX_FAULT = 2, CAST_FAULT = 3, SIZE_FAULT = 4;
 
-    private final byte[] tape;
-    private int tapeLength;
     private final TextReader reader;
     private int textFault;
     private final Chip chip;
@@ -30,8 +28,7 @@ public final class SqueezedAnswers {
     private int readFault;
 
     public SqueezedAnswers() {
-        tape = new byte[TAPE_BYTES];
-        reader = new TextReader(tape);
+        reader = new TextReader();
         chip = new Chip();
         images = new Chip[IMAGES];
         for (int k = 0; k < IMAGES; k++) {
@@ -52,26 +49,21 @@ public final class SqueezedAnswers {
         if (c < 0 || c > 127) {
             return BAD;
         }
-        if (tapeLength >= TAPE_BYTES) {
-            return FULL;
-        }
-        tape[tapeLength] = (byte) c;
-        tapeLength++;
-        return tapeLength;
+        return reader.tape.append(c) ? reader.tape.length : FULL;
     }
 
     public int end(int n) {
-        if (n < 0 || n > tapeLength) {
+        int had = reader.tape.length;
+        if (n < 0 || n > had) {
             return BAD;
         }
-        int had = tapeLength;
-        tapeLength = n;
+        reader.tape.length = n;
         return had;
     }
 
     public int text() {
-        int lines = reader.takeText(tapeLength);
-        tapeLength = 0;
+        int lines = reader.takeText();
+        reader.tape.length = 0;
         textFault = reader.fault;
         if (textFault != 0) {
             return FAULT_BASE - reader.faultPlace;
@@ -413,7 +405,7 @@ public final class SqueezedAnswers {
         switch (what) {
             case 0: return imagesKept();
             case 1: return chip.cellsWith(1);
-            case 2: return tapeLength;
+            case 2: return reader.tape.length;
             case 3: return sheets[0].isNothing() ? NONE : sheets[0].length;
             case 4: return chip.wantsTold();
             case 5: return chip.columnBits();
@@ -926,31 +918,35 @@ public final class SqueezedAnswers {
         }
     }
 
-    /** One token of the tape at a time. */
-    private static final class Tokens {
+    /** The bytes, and one token of them at a time. */
+    private static final class Tape {
         static final int WRONG = 0, NAME = 1, NUMBER = 2, SEMICOLON = 3, END = 4;
         private static final int MOST_FIGURES = 4;
 
-        private final byte[] tape;
-        private int length;
+        private final byte[] bytes = new byte[TAPE_BYTES];
+        int length;
         private int behind;
         int kind;
         int place;
         int value;
 
-        Tokens(byte[] tape) {
-            this.tape = tape;
+        boolean append(int c) {
+            if (length >= TAPE_BYTES) {
+                return false;
+            }
+            bytes[length] = (byte) c;
+            length++;
+            return true;
         }
 
-        void begin(int tapeLength) {
-            length = tapeLength;
+        void begin() {
             behind = 0;
             advance();
         }
 
         void advance() {
             place = behind;
-            while (place < length && tape[place] == ' ') {
+            while (place < length && bytes[place] == ' ') {
                 place++;
             }
             behind = place;
@@ -961,17 +957,17 @@ public final class SqueezedAnswers {
             } else if (isFigure(place)) {
                 takeNumber();
             } else {
-                kind = tape[place] == ';' ? SEMICOLON : WRONG;
+                kind = bytes[place] == ';' ? SEMICOLON : WRONG;
                 behind = place + 1;
             }
         }
 
         private boolean isLetter(int i) {
-            return tape[i] >= 'a' && tape[i] <= 'z';
+            return bytes[i] >= 'a' && bytes[i] <= 'z';
         }
 
         private boolean isFigure(int i) {
-            return tape[i] >= '0' && tape[i] <= '9';
+            return bytes[i] >= '0' && bytes[i] <= '9';
         }
 
         private void takeName() {
@@ -986,7 +982,7 @@ public final class SqueezedAnswers {
             while (behind < length && isFigure(behind)) {
                 // Figures beyond the most are refused below, so they need not count.
                 if (behind - place < MOST_FIGURES) {
-                    value = 10 * value + tape[behind] - '0';
+                    value = 10 * value + bytes[behind] - '0';
                 }
                 behind++;
             }
@@ -998,7 +994,7 @@ public final class SqueezedAnswers {
                 return false;
             }
             for (int i = 0; i < word.length(); i++) {
-                if (tape[place + i] != word.charAt(i)) {
+                if (bytes[place + i] != word.charAt(i)) {
                     return false;
                 }
             }
@@ -1011,7 +1007,7 @@ public final class SqueezedAnswers {
         private static final int CHIP = 0, COLUMN = 1, OUT = 2, REGISTER = 3, POLY = 4, CELL = 5, NO_LINE = 6;
         private static final int NO_TOKEN = 1, MISPLACED = 2, OUT_OF_BOUNDS = 3, TWICE = 4, NOT_THERE = 6;
 
-        private final Tokens tokens;
+        final Tape tape = new Tape();
         final Chip draft = new Chip();
         int fault;
         int faultPlace;
@@ -1022,11 +1018,7 @@ public final class SqueezedAnswers {
         private int cellsTold;
         private int outputsTold;
 
-        TextReader(byte[] tape) {
-            tokens = new Tokens(tape);
-        }
-
-        int takeText(int length) {
+        int takeText() {
             draft.forget();
             fault = 0;
             once = 0;
@@ -1034,22 +1026,22 @@ public final class SqueezedAnswers {
             cellsTold = 0;
             outputsTold = 0;
             int lines = 0;
-            tokens.begin(length);
-            while (lines < TAPE_BYTES && fault == 0 && tokens.kind != Tokens.END) {
+            tape.begin();
+            while (lines < TAPE_BYTES && fault == 0 && tape.kind != Tape.END) {
                 takeLine();
                 lines++;
             }
             if (fault == 0 && tellsWhatIsNotThere()) {
                 fault = NOT_THERE;
-                faultPlace = length;
+                faultPlace = tape.length;
             }
             draft.suspectAll();
             return lines;
         }
 
         private void refuse(int why) {
-            fault = tokens.kind == Tokens.WRONG ? NO_TOKEN : why;
-            faultPlace = tokens.place;
+            fault = tape.kind == Tape.WRONG ? NO_TOKEN : why;
+            faultPlace = tape.place;
         }
 
         private void takeLine() {
@@ -1062,48 +1054,48 @@ public final class SqueezedAnswers {
                 if (line == CHIP || line == REGISTER || line == POLY) {
                     once |= 1 << line;
                 }
-                tokens.advance();
+                tape.advance();
                 takeNumbers(line);
             }
         }
 
         private int lineOfName() {
-            if (tokens.isName("chip")) {
+            if (tape.isName("chip")) {
                 return CHIP;
             }
-            if (tokens.isName("column")) {
+            if (tape.isName("column")) {
                 return COLUMN;
             }
-            if (tokens.isName("out")) {
+            if (tape.isName("out")) {
                 return OUT;
             }
-            if (tokens.isName("register")) {
+            if (tape.isName("register")) {
                 return REGISTER;
             }
-            if (tokens.isName("poly")) {
+            if (tape.isName("poly")) {
                 return POLY;
             }
-            return tokens.isName("cell") ? CELL : NO_LINE;
+            return tape.isName("cell") ? CELL : NO_LINE;
         }
 
         private void takeNumbers(int line) {
             int least = leastNumbers(line);
             int most = line == COLUMN || line == OUT ? TAPE_BYTES : least;
             int i = 0;
-            while (i < most && fault == 0 && tokens.kind == Tokens.NUMBER) {
-                if (tokens.value < lowest(line, i) || tokens.value > highest(line, i)) {
+            while (i < most && fault == 0 && tape.kind == Tape.NUMBER) {
+                if (tape.value < lowest(line, i) || tape.value > highest(line, i)) {
                     refuse(OUT_OF_BOUNDS);
                 } else {
-                    tell(line, i, tokens.value);
-                    tokens.advance();
+                    tell(line, i, tape.value);
+                    tape.advance();
                 }
                 i++;
             }
             if (fault == 0) {
-                if (i < least || tokens.kind != Tokens.SEMICOLON) {
+                if (i < least || tape.kind != Tape.SEMICOLON) {
                     refuse(MISPLACED);
                 } else {
-                    tokens.advance();
+                    tape.advance();
                 }
             }
         }
