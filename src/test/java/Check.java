@@ -1,6 +1,9 @@
-/** Counts the answers of one test and tells those that are not as due. */
+import java.util.function.ToIntFunction;
+
+/** Counts the answers of one test and tells those that are not as due, with the document's sentence that they break. */
 final class Check {
     private final String name;
+    private String sentence = "";
     private int asked;
     private int wrong;
 
@@ -8,16 +11,38 @@ final class Check {
         this.name = name;
     }
 
+    /** The words of the document to which the answers that follow hold. */
+    void sentence(String words) {
+        sentence = words;
+    }
+
     void due(String call, long got, long want) {
         asked++;
         if (got != want) {
             wrong++;
-            System.out.println(name + ": " + call + " answered " + got + ", due is " + want);
+            System.out.println(name + " (" + sentence + "): " + call + " answered " + got + ", due is " + want);
         }
     }
 
     void that(String what, boolean holds) {
         due(what, holds ? 1 : 0, 1);
+    }
+
+    /** A call that is refused, or only asks: it answers what is due, and nothing has changed. */
+    void unchanged(String call, Past past, int want, ToIntFunction<SqueezedAnswers> ask) {
+        due(call + " on " + past, ask.applyAsInt(past.make()), want);
+        for (Look look : Look.values()) {
+            same(call + " on " + past, look, past, ask, x -> 0);
+        }
+    }
+
+    /** Of two objects with the same past, one has got one call, one the other: what is looked at is the same. */
+    void same(String call, Look look, Past past, ToIntFunction<SqueezedAnswers> one, ToIntFunction<SqueezedAnswers> other) {
+        SqueezedAnswers a = past.make();
+        SqueezedAnswers b = past.make();
+        one.applyAsInt(a);
+        other.applyAsInt(b);
+        that(call + " leaves " + look, look.at(a).equals(look.at(b)));
     }
 
     /** Ends the run with exit code 1 if an answer was wrong. */
@@ -52,5 +77,17 @@ final class Check {
         for (int t = 0; t < figures.length(); t++) {
             x.set(c, t, figures.charAt(t) - '0');
         }
+    }
+
+    /** Lays what a read takes for one cell. */
+    static void triple(SqueezedAnswers x, int k, int from, int c, int t, int v) {
+        x.lay(k, from, c);
+        x.lay(k, from + 1, t);
+        x.lay(k, from + 2, v);
+    }
+
+    /** The numbers just below 0 and just above n less 1, and the farthest ones. */
+    static int[] outside(int n) {
+        return new int[] {Integer.MIN_VALUE, -1, n, n + 1, Integer.MAX_VALUE};
     }
 }
