@@ -30,9 +30,9 @@ public final class Promise08ColumnTest {
             int asked = c;
             check.unchanged("column " + c, Past.MIXED, columns[c], x -> x.column(asked));
         }
-        SqueezedAnswers x = Check.of("chip 2 1 8;");
-        check.due("of none at first", x.column(1), 0);
+        check.due("of none at first", Check.of("chip 2 1 8;").column(1), 0);
         for (int some = 0; some < 256; some++) {
+            SqueezedAnswers x = Check.of("chip 2 1 8;");
             x.put(1, some);
             check.due("column", x.column(1), some);
             check.due("the other", x.column(0), 0);

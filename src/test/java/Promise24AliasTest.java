@@ -106,31 +106,42 @@ public final class Promise24AliasTest {
         check.sentence("of how many rows of errors the SIGNATURE would be the same: against all rows");
         Random random = new Random(24);
         for (int run = 0; run < 150; run++) {
-            int length = 1 + random.nextInt(6);
-            int chains = 1 + random.nextInt(Math.min(8, 12 / length));
+            int length = 1 + random.nextInt(5);
+            int[] columns = new int[1 + random.nextInt(Math.min(8, 10 / length))];
             int outputs = 1 + random.nextInt(8);
-            SqueezedAnswers x = Check.of("chip " + chains + " " + length + " " + outputs + ";poly "
-                + random.nextInt(1 << outputs) + ";");
-            for (int c = 0; c < chains; c++) {
-                x.put(c, random.nextInt(1 << outputs));
+            String text = "chip " + columns.length + " " + length + " " + outputs + ";poly "
+                + random.nextInt(1 << outputs) + ";";
+            for (int c = 0; c < columns.length; c++) {
+                columns[c] = random.nextInt(1 << outputs);
             }
-            x.out(random.nextInt(3) == 0 ? random.nextInt(1 << chains) : 0);
-            int[] same = sameSignatures(x, chains, length);
+            int out = random.nextInt(3) == 0 ? random.nextInt(1 << columns.length) : 0;
+            int[] same = sameSignatures(text, columns, out, length);
+            SqueezedAnswers x = withColumns(text, columns, out);
             check.due("all rows of run " + run, 1 << x.alias(0), same[0]);
             check.due("rows of one of run " + run, x.alias(1), same[1]);
             check.due("rows of two of run " + run, x.alias(2), same[2]);
         }
     }
 
+    private static SqueezedAnswers withColumns(String text, int[] columns, int out) {
+        SqueezedAnswers x = Check.of(text);
+        for (int c = 0; c < columns.length; c++) {
+            x.put(c, columns[c]);
+        }
+        x.out(out);
+        return x;
+    }
+
     /** Tries all rows of errors on cells that are 0: how many there are, of one error, of two. */
-    private static int[] sameSignatures(SqueezedAnswers x, int chains, int length) {
+    private static int[] sameSignatures(String text, int[] columns, int out, int length) {
         int[] found = new int[3];
-        int cells = chains * length;
+        int cells = columns.length * length;
         for (int row = 0; row < 1 << cells; row++) {
+            SqueezedAnswers x = withColumns(text, columns, out);
             boolean inside = true;
             for (int i = 0; i < cells; i++) {
                 int v = (row >> i) & 1;
-                inside &= v == 0 || ((x.rule(3) >> (i / length)) & 1) == 0;
+                inside &= v == 0 || ((out >> (i / length)) & 1) == 0;
                 x.set(i / length, i % length, v);
             }
             if (inside && x.signature() == 0) {

@@ -25,16 +25,22 @@ public final class RandomRunsTest {
         calls = 0;
         while (calls < CALLS) {
             if (calls == 0 || random.nextInt(60) == 0) {
-                String text = text();
-                for (int i = 0; i < text.length() && calls < CALLS; i++) {
-                    due("feed", x.feed(text.charAt(i)), m.feed(text.charAt(i)));
-                }
-                due("text of " + text, x.text(), m.text());
-                due("fault of " + text, x.fault(), m.fault());
+                tell(text());
             } else {
                 one();
             }
         }
+    }
+
+    private void tell(String text) {
+        if (calls + text.length() + 2 > CALLS) {
+            return;
+        }
+        for (int i = 0; i < text.length(); i++) {
+            due("feed", x.feed(text.charAt(i)), m.feed(text.charAt(i)));
+        }
+        due("text of " + text, x.text(), m.text());
+        due("fault of " + text, x.fault(), m.fault());
     }
 
     private void due(String call, int got, int want) {
@@ -157,15 +163,17 @@ public final class RandomRunsTest {
             case 0: due("sheet " + size, x.sheet(k, lane, size), m.sheet(k, lane, size)); break;
             case 1:
             case 2: due("lay " + v, x.lay(k, f, v), m.lay(k, f, v)); break;
-            case 3:
-                int c = about(chains) + 256 * random.nextInt(2);
-                int t = about(length);
-                due("lay chain", x.lay(k, 0, c), m.lay(k, 0, c));
-                due("lay cell", x.lay(k, 1, t), m.lay(k, 1, t));
-                due("lay value", x.lay(k, 2, v), m.lay(k, 2, v));
-                break;
+            case 3: layTriple(k, about(chains) + 256 * random.nextInt(2), about(length), v); break;
             case 4: due("torn", x.torn(), m.torn()); break;
             default: due("read " + k + ", " + lane, x.read(k, lane, f, n), m.read(k, lane, f, n)); break;
+        }
+    }
+
+    private void layTriple(int k, int c, int t, int v) {
+        if (calls + 3 <= CALLS) {
+            due("lay chain", x.lay(k, 0, c), m.lay(k, 0, c));
+            due("lay cell", x.lay(k, 1, t), m.lay(k, 1, t));
+            due("lay value", x.lay(k, 2, v), m.lay(k, 2, v));
         }
     }
 
